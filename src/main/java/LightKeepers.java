@@ -650,7 +650,7 @@ public final class LightKeepers {
             }
             rocks = howMany;
             many = factorial(rocks);
-            for (int way = 0; way < many; way++) {
+            for (int way = 0; way < many && way < MOST_WAYS; way++) {
                 fillRow(way);
                 System.arraycopy(row, 0, keepers, way * MOST_KEEPERS, MOST_KEEPERS);
                 for (int rock = 0; rock + 1 < rocks; rock++) {
