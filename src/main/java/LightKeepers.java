@@ -868,16 +868,15 @@ public final class LightKeepers {
             }
         }
 
+        /** Ways are reached in the order of the first changes, so that the earliest is the least. */
         private void reach(int way, int later, int first) {
-            int known = item(moons, way);
-            if (known == later) {
-                put(firsts, way, Math.min(item(firsts, way), first));
-            } else if (known == NONE) {
-                if (safe && shore.likes(way) > 0) {
-                    put(moons, way, BARRED);
-                } else {
-                    enter(way, later, first);
-                }
+            if (item(moons, way) != NONE) {
+                return;
+            }
+            if (safe && shore.likes(way) > 0) {
+                put(moons, way, BARRED);
+            } else {
+                enter(way, later, first);
             }
         }
 

@@ -114,6 +114,14 @@ public final class CoastTest {
         check.due("coast() of no text", 0, x.coast());
         check.due("no text: count(0)", 0, x.count(0));
         check.due("no text: rock(0)", -1, x.rock(0));
+        check.due("no text: fits(-1)", 1, x.fits(-1));
+        check.due("no text: moon(0)", 0, x.moon(0));
+        check.due("no text: homeward(0, 0)", 0, x.homeward(0, 0));
+        Check.type(x, "k1;k2;k3;k4;");
+        x.coast();
+        check.due("four: fits(-1)", 24, x.fits(-1));
+        check.due("four: moon(4)", 2, x.moon(4));
+        check.dueWho("four: moon(4)", "0132", x);
     }
 
     /** Each text's fault is where its mark | stands, which is not typed. */
@@ -131,6 +139,8 @@ public final class CoastTest {
         fault("  |a");
         fault("k|;");
         fault("|kk1;");
+        fault("|ka1;");
+        fault("|kz1;");
         fault("k|");
         fault("k |");
         fault("k1|");

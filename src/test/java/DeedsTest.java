@@ -130,6 +130,8 @@ public final class DeedsTest {
         check.due("count(4)", 10, x.count(4));
         for (int left = 9; left >= 0; left--) {
             check.due("undo()", left, x.undo());
+            check.due("now(0), " + left + " left", 2 + left, x.now(0));
+            check.due("now(1), " + left + " left", 6 * (2 + left), x.now(1));
         }
         check.due("undo() of a lost one", -2, x.undo());
         check.due("now(0)", 2, x.now(0));
