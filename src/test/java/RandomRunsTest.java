@@ -136,7 +136,8 @@ public final class RandomRunsTest {
             case 9 -> {
                 int fog = number(10);
                 int what = number(1);
-                due("odds(" + a + ", " + fog + ", " + what + ")", plain.odds(a, fog, what), x.odds(a, fog, what));
+                String odds = "odds(" + a + ", " + fog + ", " + what + ")";
+                due(odds, plain.odds(a, fog, what), x.odds(a, fog, what));
             }
             case 10 -> {
                 int f = random.nextBoolean() ? plain.keeper(random.nextInt(6), 0) : b;
