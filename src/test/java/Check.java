@@ -1,3 +1,6 @@
+import java.lang.reflect.Method;
+import java.util.Arrays;
+import java.util.Comparator;
 import java.util.function.Supplier;
 import java.util.function.ToLongFunction;
 
@@ -7,6 +10,28 @@ final class Check {
     private int sentences = 0;
     private int asked = 0;
     private int wrong = 0;
+
+    /** Runs all tests of a class, its methods without parameters that answer nothing, each for itself. */
+    void all(Class<?> tests) {
+        Method[] methods = tests.getDeclaredMethods();
+        Arrays.sort(methods, Comparator.comparing(Method::getName));
+        for (Method method : methods) {
+            if (method.getParameterCount() == 0 && method.getReturnType() == void.class) {
+                run(method);
+            }
+        }
+        end();
+    }
+
+    /** What a test throws is told as wrong, and the next one goes on. */
+    private void run(Method test) {
+        try {
+            test.setAccessible(true);
+            test.invoke(null);
+        } catch (ReflectiveOperationException thrown) {
+            due(test.getName(), "as told", String.valueOf(thrown.getCause()));
+        }
+    }
 
     /** The sentence of the document that the answers to come are about; wrong ones are told with it. */
     void of(String words) {
@@ -49,6 +74,7 @@ final class Check {
         due("all after " + call, Probe.all(made.get()), Probe.all(with));
     }
 
+    /** Tells how many answers were wrong; with code 1, if any was. */
     void end() {
         System.out.println(sentences + " sentences, " + asked + " answers, " + wrong + " wrong");
         if (wrong > 0) {

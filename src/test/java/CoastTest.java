@@ -5,58 +5,7 @@ public final class CoastTest {
     private static final Check check = new Check();
 
     public static void main(String[] args) {
-        rocks();
-        flash();
-        home();
-        hatesAtMost();
-        sight();
-        sightAtFirst();
-        inSight();
-        textAtMost();
-        blanks();
-        blanksAlone();
-        blanksNotNeeded();
-        itemsNone();
-        itemsEnd();
-        toldAhead();
-        unlike();
-        toldAgain();
-        sightOnce();
-        letters();
-        numbers();
-        firstToken();
-        lettersThatBeginNoItem();
-        seventhKeeper();
-        ninthHate();
-        sightAgain();
-        numberBeyond();
-        byteThatBeginsNone();
-        numberAbove99();
-        zeroAhead();
-        endsTooEarly();
-        promise1();
-        promise2Byte();
-        promise2Bad();
-        promise2Full();
-        promise3();
-        promise4Items();
-        promise4Empty();
-        promise4Fault();
-        promise4FaultChangesNothing();
-        promise4FaultLeavesNoTrace();
-        anewAsTold();
-        anewAsAtFirst();
-        anewAtHome();
-        anewNothingSeen();
-        anewNothingToBeUndone();
-        anewNoImages();
-        anewTrace();
-        promise5();
-        promise5Hates();
-        promise5Bad();
-        promise6();
-        promise6Bad();
-        check.end();
+        check.all(CoastTest.class);
     }
 
     /** A text's fault is where its mark | stands, which is not typed. */
@@ -556,21 +505,24 @@ public final class CoastTest {
     }
 
     private static void promise4FaultLeavesNoTrace() {
-        check.of("coast: -10 less FAULT: nothing changes; what is read next is not told twice");
-        LightKeepers x = new LightKeepers();
+        check.of("coast: -10 less FAULT: nothing changes; what is read next is read from its first byte");
         String full = SIX + "h0 1;".repeat(8) + "s1;";
-        Check.type(x, full + "x");
-        check.due("coast() of a text with a fault", -10 - full.length(), x.coast());
-        x.clear();
-        Check.type(x, full);
-        check.due("coast() of as many", 15, x.coast());
-        Check.type(x, full + "x");
-        x.coast();
-        x.clear();
-        Check.type(x, "k1;k1;");
-        x.coast();
-        check.dueCounts(x, 2, 0, 1, 0, 0, 0);
-        check.due("keeper(0, 4)", 0, x.keeper(0, 4));
+        for (String fault : new String[] {"", "x", "!", "k", ";", "100", "00", "kk", "k1 ", "h", "s", "  7"}) {
+            LightKeepers x = new LightKeepers();
+            Check.type(x, full + fault);
+            int due = fault.isEmpty() ? 15 : -10 - full.length() - fault.indexOf(fault.trim());
+            check.due("coast() of all and " + fault, due, x.coast());
+            x.clear();
+            Check.type(x, full);
+            check.due("after " + fault + ": coast() of as many", 15, x.coast());
+            Check.type(x, full + fault);
+            x.coast();
+            x.clear();
+            Check.type(x, "k1;k1;");
+            check.due("after " + fault + ": coast() of less", 2, x.coast());
+            check.dueCounts(x, 2, 0, 1, 0, 0, 0);
+            check.due("after " + fault + ": keeper(0, 4)", 0, x.keeper(0, 4));
+        }
     }
 
     /** An object in which there was something of all, ahead of a new text. */
@@ -592,6 +544,7 @@ public final class CoastTest {
         check.due("keeper(2, 0)", -1, x.keeper(2, 0));
         check.due("rock(2)", -1, x.rock(2));
         check.due("moon(2)", -1, x.moon(2));
+        check.due("fewer than ahead of it: fits(-1)", 2, x.fits(-1));
         check.due("more than ahead of it: fits(-1)", 720, anew(SIX).fits(-1));
         check.due("as many as ahead of it: fits(-1)", 24, anew("k1;k1;k1;k1;").fits(-1));
     }

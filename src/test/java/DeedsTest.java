@@ -4,41 +4,7 @@ public final class DeedsTest {
     private static final Check check = new Check();
 
     public static void main(String[] args) {
-        changeBits();
-        changeNoRockTwice();
-        changeNoHaters();
-        changeNobody();
-        moonsOneMore();
-        moonsAtMost();
-        burnt();
-        burntLightsOut();
-        out();
-        outGoesWithHim();
-        undoneLatest();
-        undoneTenAreKnown();
-        undoneOlderAreLost();
-        undoneAllIsAsAhead();
-        undoneAlone();
-        promise7HowMany();
-        promise7Bad();
-        promise7State();
-        promise7BadAheadOfState();
-        promise8HowMany();
-        promise8Bad();
-        promise8State();
-        promise9HowMany();
-        promise9State();
-        promise10();
-        promise10Likes();
-        promise10Drifts();
-        promise10Bad();
-        calmFewestLikes();
-        calmMostChange();
-        calmLeastBits();
-        calmOfAllChanges();
-        calmWhoeverIsOut();
-        nowChangesNothing();
-        check.end();
+        check.all(DeedsTest.class);
     }
 
     private static void changeBits() {
@@ -506,6 +472,7 @@ public final class DeedsTest {
         calm(0, "");
         calm(0, "k1;");
         calm(0, "k1;k2;h0 1;");
+        calm(0, "k1;k2;k1;");
         calm(0, "k1;k1;k2;h1 2;h0 1;");
         calm(2, "k1;k2;k3;h1 0;");
         calm(0, "k1;k2;k3;h0 1;h2 1;");

@@ -6,36 +6,7 @@ public final class FlashesTest {
     private static final Check check = new Check();
 
     public static void main(String[] args) {
-        ship();
-        shipNextOne();
-        shipNeitherOut();
-        shipBad();
-        seenAtMost();
-        seenAtARock();
-        fitsHowMany();
-        fitsAllThatWasSeen();
-        fitsWhoeverHatesWhom();
-        fitsWhoeverIsOut();
-        sure();
-        sureNotTheSame();
-        sureThereAreNone();
-        oddsInSight();
-        oddsItsOwn();
-        oddsNotOut();
-        oddsNeverHidden();
-        oddsAlwaysHidden();
-        oddsNoLights();
-        oddsLeastTerms();
-        oddsBad();
-        sawHowMuch();
-        sawBad();
-        sawFull();
-        sawBadAheadOfFull();
-        forget();
-        forgetNothingElse();
-        fitsBad();
-        nothingIsChanged();
-        check.end();
+        check.all(FlashesTest.class);
     }
 
     private static void ship() {
@@ -143,6 +114,14 @@ public final class FlashesTest {
         x.saw(1, 1);
         x.saw(1, 2);
         check.due("two flashes at a rock: fits(-1)", 0, x.fits(-1));
+        for (int other = 0; other <= 5; other++) {
+            LightKeepers y = Check.coast("k1;k2;k1;");
+            for (int i = 0; i <= 5; i++) {
+                y.saw(0, i == other ? 2 : 1);
+            }
+            check.due("one of six is not so, the " + other + "th: fits(-1)", 0, y.fits(-1));
+            check.due("one of six is not so, the " + other + "th: fits(0)", -9, y.fits(0));
+        }
         LightKeepers six = Check.coast(SIX);
         int[] left = {120, 24, 6, 2, 1, 1};
         for (int r = 0; r <= 5; r++) {

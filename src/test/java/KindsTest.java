@@ -6,36 +6,7 @@ public final class KindsTest {
     private static final Check check = new Check();
 
     public static void main(String[] args) {
-        markKeeper();
-        markSleeper();
-        markPilot();
-        markHorn();
-        markCat();
-        markWife();
-        markAsIfOfAKind();
-        markWhoeverIsOut();
-        markNo();
-        traceAtFirst();
-        traceByKind();
-        traceOfAllCalls();
-        traceAlone();
-        keepMoons();
-        keepBad();
-        keepNothingElse();
-        keepAgain();
-        imagesKeepNow();
-        imagesTwo();
-        imagesKeepWhatMayBeUndone();
-        imagesNothingElse();
-        imagesStay();
-        backMoons();
-        backBad();
-        backState();
-        count();
-        countAtMost();
-        countBad();
-        noneIsTold();
-        check.end();
+        check.all(KindsTest.class);
     }
 
     /** 1203: 1 at rock 0, 2 at rock 1, 0 at rock 2, at moon 3. */

@@ -4,34 +4,7 @@ public final class MoonsToComeTest {
     private static final Check check = new Check();
 
     public static void main(String[] args) {
-        nothingIsChanged();
-        outDoesNotMatter();
-        homewardFewest();
-        homewardNobodyHates();
-        homewardWhatever();
-        homewardNoLikesAtTheEnds();
-        homewardNoLikesAtTheLast();
-        homewardNowDoesNotMatter();
-        homewardAllThere();
-        homewardFirst();
-        homewardLeastBits();
-        homewardNever();
-        homewardFirstAllThere();
-        homewardBad();
-        homewardAtMoon99();
-        tradeFewest();
-        tradeWhereNow();
-        tradeOthersWherever();
-        tradeHaters();
-        tradeSafe();
-        tradeSafeLast();
-        tradeSafeNow();
-        tradeNone();
-        tradeBad();
-        tradeAlikeOnes();
-        askedAgain();
-        askedAgainOfAnotherCoast();
-        check.end();
+        check.all(MoonsToComeTest.class);
     }
 
     private static void homeward(LightKeepers x, int safe, int moons, int change) {
