@@ -456,6 +456,7 @@ public final class LightKeepers {
         int keepers;
         int hates;
         int sight = SIGHT_AT_FIRST;
+        /** Matters while it is read alone. */
         boolean sightTold;
         final int[] flashes = new int[MOST_KEEPERS];
         final int[] haters = new int[MOST_KEEPERS];
@@ -472,7 +473,6 @@ public final class LightKeepers {
             keepers = other.keepers;
             hates = other.hates;
             sight = other.sight;
-            sightTold = other.sightTold;
             System.arraycopy(other.flashes, 0, flashes, 0, MOST_KEEPERS);
             System.arraycopy(other.haters, 0, haters, 0, MOST_KEEPERS);
         }
@@ -589,7 +589,6 @@ public final class LightKeepers {
             end = place + 1;
             int c = item(bytes, place);
             if (place >= length) {
-                end = place;
                 token = END;
             } else if (isLetter(c)) {
                 nextLetters(c);

@@ -4,8 +4,9 @@ import java.util.Random;
 
 /** All promises: runs of calls that are always the same random ones, compared with PlainKeepers. */
 public final class RandomRunsTest {
-    private static final int RUNS = 240;
-    private static final int CALLS = 512;
+    private static final int RUNS = 300;
+    /** An object is used for 512 calls at most; a text and its coast() are the most at once. */
+    private static final int CALLS = 512 - 125;
     private static int wrong = 0;
     private static long asked = 0;
 
