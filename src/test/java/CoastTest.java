@@ -545,6 +545,8 @@ public final class CoastTest {
         check.due("rock(2)", -1, x.rock(2));
         check.due("moon(2)", -1, x.moon(2));
         check.due("fewer than ahead of it: fits(-1)", 2, x.fits(-1));
+        x.moon(0);
+        check.due("fewer than ahead of it: now(1)", 15, x.now(1));
         check.due("more than ahead of it: fits(-1)", 720, anew(SIX).fits(-1));
         check.due("as many as ahead of it: fits(-1)", 24, anew("k1;k1;k1;k1;").fits(-1));
     }

@@ -246,6 +246,36 @@ public final class KindsTest {
         }
     }
 
+    /** Ten deeds of all sorts, as many as are known, at a coast of three. */
+    private static LightKeepers tenDeeds() {
+        LightKeepers x = Check.coast("k1;k2;k3;");
+        for (int i = 0; i < 5; i++) {
+            x.moon(1 + i % 2);
+            x.puts(i % 3, 1 - x.keeper(i % 3, 3));
+        }
+        return x;
+    }
+
+    private static void imagesKeepAllThatMayBeUndone() {
+        check.of("IMAGES keep what may be UNDONE (10 are known)");
+        for (int image = 0; image <= 1; image++) {
+            LightKeepers x = tenDeeds();
+            x.keep(image);
+            for (int i = 0; i < 12; i++) {
+                x.moon(2);
+            }
+            check.due("back(" + image + ")", 5, x.back(image));
+            check.due("count(4)", 10, x.count(4));
+            LightKeepers never = tenDeeds();
+            for (int left = 9; left >= 0; left--) {
+                never.undo();
+                check.due("undo()", left, x.undo());
+                check.due("all that is seen", Probe.seen(never), Probe.seen(x));
+            }
+            check.due("undo() of none", -2, x.undo());
+        }
+    }
+
     private static void imagesNothingElse() {
         check.of("IMAGES keep NOW; nothing else");
         LightKeepers x = Check.coast("k1;k2;");
